@@ -879,6 +879,9 @@ public final class KickOdds {
 
         private boolean readSkills(int side) {
             advance();
+            if (side < 0 || side >= counts.length) {
+                return false;
+            }
             for (int i = 0; i < MOST_SHOOTERS; i++) {
                 int skill = digitOfToken(MOST_SKILL);
                 if (skill < 0) {
@@ -1359,7 +1362,7 @@ public final class KickOdds {
             for (int i = 0; i < endWays.length; i++) {
                 endWays[i] = 0;
             }
-            for (int i = 0; i < scoreWays.length; i++) {
+            for (int i = 0; i < scoreWays.length && grow > 0; i++) {
                 scoreWays[i] = 0;
             }
         }
@@ -1371,6 +1374,12 @@ public final class KickOdds {
         private static void add(long[] row, int at, long more) {
             if (at >= 0 && at < row.length) {
                 row[at] += more;
+            }
+        }
+
+        private void addScore(int goals, int lead, long more) {
+            if (grow > 0) {
+                add(scoreWays, goals * SCORES + goals - lead, more);
             }
         }
 
@@ -1399,10 +1408,10 @@ public final class KickOdds {
                 wonByA += lead > 0 ? all : 0;
                 wonByB += lead < 0 ? all : 0;
                 add(endWays, k, all);
-                add(scoreWays, goals * SCORES + goals - lead, all);
+                addScore(goals, lead, all);
             } else if (k >= last) {
                 level += many;
-                add(scoreWays, goals * SCORES + goals - lead, many);
+                addScore(goals, lead, many);
             } else {
                 int nextLeader = k % 2 == 0 ? shootout.leaderOf(k / 2, lead, leader) : leader;
                 add(waysBehind, at(goals, lead, nextLeader), many);

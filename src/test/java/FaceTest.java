@@ -77,6 +77,9 @@ public final class FaceTest {
             check.due(c + " has some twenty fields", true, fields <= 20);
             for (Method m : c.getDeclaredMethods()) {
                 check.due(m + " takes at most seven", true, m.getParameterCount() <= 7);
+                for (String open : FACE) {
+                    check.due(m + " has its own name", false, open.contains(" " + m.getName() + "("));
+                }
             }
         }
     }

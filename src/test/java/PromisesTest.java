@@ -122,6 +122,7 @@ public final class PromisesTest {
         fault(5, "a3 ; ");
         fault(2, "a3b3");
         fault(0, "aa3;b3");
+        fault(0, "az3;b3");
         fault(0, "c3;b3");
         fault(0, "A3;b3");
         fault(0, ";a3;b3");
@@ -678,6 +679,11 @@ public final class PromisesTest {
         Check.play(x, "ox");
         check.due("sudden", -1, x.needs(0));
         check.due("sudden", -1, x.needs(1));
+        x = Check.of("a 3333;b 3333;first b");
+        Check.play(x, "oxo");
+        // b may come to 2 yet, a has made 1 of 1; b would need 5
+        check.due("a by two more", 2, x.needs(0));
+        check.due("b not by all", -2, x.needs(1));
         check.due("no sides", -1, new KickOdds().needs(0));
     }
 
@@ -699,7 +705,8 @@ public final class PromisesTest {
         check.due("row 2 of two", -1, x.oddsOf(0, 2, 0));
         check.due("row 01", true, x.oddsOf(0, 1, 0) > 0);
         check.due("row 10", true, x.oddsOf(0, 10, 0) > 0);
-        check.due("row 010 is 10", true, x.oddsOf(0, 10, 0) > 0);
+        check.due("row 101 of two", -1, x.oddsOf(0, 101, 0));
+        check.due("row 10 of one", -1, Check.of("a3;b4").oddsOf(0, 10, 0));
         check.due("no sides", -1, new KickOdds().oddsOf(0, 0, 0));
     }
 
@@ -727,6 +734,10 @@ public final class PromisesTest {
             }
         }
         check.due("rows", 120, rows);
+        int bestOfB = x.best(1);
+        Check.play(x, "xoxoo");
+        check.due("at the start", best, x.best(0));
+        check.due("at the start", bestOfB, x.best(1));
         check.due("side", -1, x.best(2));
         check.due("side", -1, x.best(-1));
         check.due("no sides", -1, new KickOdds().best(0));
@@ -781,6 +792,9 @@ public final class PromisesTest {
         check.due("as many by other numbers", before, x.rests(0));
         x.undo();
         check.due("and back", a, x.rests(1));
+        Check.play(x, "ox");
+        check.due("at the start", before, x.rests(0));
+        check.due("at the start", a, x.rests(1));
     }
 
     private static final String NO_REST = "a 26;b 05;behind a-1;ahead a2;behind b3;ahead b-1;order 0";
