@@ -96,30 +96,12 @@ public final class FuzzTest {
         }
     }
 
-    /** All that can be asked of a state, as one text. */
-    private static String state(KickOdds x) {
-        StringBuilder b = new StringBuilder();
-        for (int what = 0; what <= 6; what++) {
-            b.append(x.count(what)).append(' ');
-        }
-        for (int what = 0; what < 16; what++) {
-            b.append(x.side(0, what)).append(' ').append(x.side(1, what)).append(' ');
-        }
-        for (int i = 0; i < x.count(1); i++) {
-            b.append(x.made(i)).append(' ');
-        }
-        for (int what = 0; what < 4; what++) {
-            b.append(x.turn(what)).append(' ').append(x.judged(what)).append(' ');
-        }
-        return b.toString();
-    }
-
     private static void askingChangesNothing() {
         String[] texts = {"a 3;b 4;order 1", "a1234;b5432;order 3;behind b-2", "a12345;b54321;order 2;ahead a-2;first b"};
         for (String text : texts) {
             KickOdds x = Check.of(text);
             for (int i = 0; i < 12; i++) {
-                String before = state(x);
+                String before = Check.state(x);
                 for (int which = 15; which <= 33; which++) {
                     for (int tries = 0; tries < 12; tries++) {
                         try {
@@ -137,7 +119,7 @@ public final class FuzzTest {
                 x.again(2);
                 x.again(1);
                 x.play();
-                check.due(text + " " + i, true, before.equals(state(x)));
+                check.due(text + " " + i, true, before.equals(Check.state(x)));
                 x.kick(i % 3 == 0);
             }
         }

@@ -1,5 +1,3 @@
-import java.util.NoSuchElementException;
-
 /** Each promise by its number: ordinary answers worked out by hand, the edges, wrong inputs. */
 public final class PromisesTest {
     private static final int NOTHING = Integer.MIN_VALUE;
@@ -44,15 +42,6 @@ public final class PromisesTest {
         count();
         withoutSides();
         check.finish();
-    }
-
-    private static int throwsNoSuch(KickOdds x, int i) {
-        try {
-            x.made(i);
-            return 0;
-        } catch (NoSuchElementException e) {
-            return 1;
-        }
     }
 
     // 1
@@ -978,13 +967,13 @@ public final class PromisesTest {
         check.due("made(1)", 10, x.made(1));
         check.due("made(2)", 11, x.made(2));
         check.due("made(3)", 1, x.made(3));
-        check.due("none", 1, throwsNoSuch(x, 4));
-        check.due("none", 1, throwsNoSuch(x, -1));
-        check.due("none", 1, throwsNoSuch(x, Integer.MAX_VALUE));
-        check.due("none", 1, throwsNoSuch(x, Integer.MIN_VALUE));
+        check.due("none", 1, Check.throwsNoSuch(x, 4));
+        check.due("none", 1, Check.throwsNoSuch(x, -1));
+        check.due("none", 1, Check.throwsNoSuch(x, Integer.MAX_VALUE));
+        check.due("none", 1, Check.throwsNoSuch(x, Integer.MIN_VALUE));
         x.undo();
-        check.due("none", 1, throwsNoSuch(x, 0));
-        check.due("no sides", 1, throwsNoSuch(new KickOdds(), 0));
+        check.due("none", 1, Check.throwsNoSuch(x, 0));
+        check.due("no sides", 1, Check.throwsNoSuch(new KickOdds(), 0));
     }
 
     // 35
