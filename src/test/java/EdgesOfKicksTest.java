@@ -378,6 +378,12 @@ public final class EdgesOfKicksTest {
         check.due("beyond 60 and blanks", -1061, Check.judge(x, times("x", 60) + " o"));
         check.due("another sign beyond 60", -1061, Check.judge(x, times("x", 61) + "?"));
         check.due("emptied", 0, x.count(5));
+        check.says(8, "Of the latest that was no FAULT, see judged().");
+        check.due("the latest that was none", 2, x.judge() + Check.judge(x, "ox"));
+        check.due("a FAULT behind it", -1002, Check.judge(x, "xoo"));
+        check.due("another one", -1000, Check.judge(x, "-"));
+        check.due("goals of a", 0, x.judged(0));
+        check.due("goals of b", 1, x.judged(1));
         check.says(8, "-2.");
         x = new KickOdds();
         check.due("no SIDES, nothing told", -2, x.judge());

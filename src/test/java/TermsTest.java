@@ -15,6 +15,7 @@ public final class TermsTest {
         faults();
         tooEarly();
         chance();
+        goalInSix();
         shooterOfRound();
         leaders();
         over();
@@ -130,7 +131,13 @@ public final class TermsTest {
         fault(6, "a3;b3;");
         fault(2, "a3,b3");
         fault(3, "a3 b3");
-        check.term(1, "in any row");
+        check.term(1, "each word once at most, in any row");
+        fault(6, "a3;b3;a3");
+        fault(6, "b3;a3;b3");
+        fault(8, "order 1;order 1;a3;b3");
+        fault(8, "first a;first b;a3;b3");
+        fault(17, "behind a0;behind a0;a3;b3");
+        fault(16, "ahead b 0;ahead b0;a3;b3");
         String[] all = {"a 12", "b 34", "behind a-1", "behind b 2", "ahead a 3", "ahead b-3", "order 3", "first b"};
         for (int from = 0; from < 16; from++) {
             StringBuilder b = new StringBuilder();
@@ -150,6 +157,22 @@ public final class TermsTest {
     }
 
     private static void words() {
+        check.term(1, "a D {D} | b D {D}");
+        fault(1, "a;b3");
+        fault(1, "a");
+        fault(4, "a3;b;");
+        fault(1, "a-1;b1");
+        fault(2, "a x;b1");
+        ok(3, "a 1 2 3;b123");
+        check.term(1, "behind SIDE N | ahead SIDE N");
+        fault(12, "a3;b3;behind");
+        fault(12, "a3;b3;behind;");
+        fault(13, "a3;b3;behind ;");
+        fault(14, "a3;b3;behind a;");
+        fault(13, "a3;b3;ahead b;");
+        fault(13, "a3;b3;behind x 1");
+        fault(12, "a3;b3;ahead behind");
+        fault(14, "a3;b3;ahead a b 1");
         check.term(1, "(SKILLS, single digits; both must be told, of as many)");
         ok(2, "a12;b 1 2");
         fault(3, "a12.5;b11");
@@ -318,6 +341,17 @@ public final class TermsTest {
         chanceIs("a 22;b 33;ahead a -3", "xo", 0);
         chanceIs("a 00;b 66", "", 0);
         chanceIs("a 00;b 66", "o", 6);
+    }
+
+    private static void goalInSix() {
+        check.term(2, "it is a goal in CHANCE of 6");
+        for (int c = 0; c <= 6; c++) {
+            KickOdds x = Check.of("a 6;b " + c);
+            check.due("a's by none, " + c, 36 - 6 * c, x.score(1, 0));
+            check.due("level by a goal, " + c, 6 * c, x.score(1, 1));
+            x = Check.of("a 0;b " + c);
+            check.due("b's by a goal, " + c, 6 * c, x.score(0, 1));
+        }
     }
 
     private static void shooterOfRound() {
@@ -745,7 +779,7 @@ public final class TermsTest {
     }
 
     private static void refusedOrder() {
-        check.term(4, "The first of these in that order");
+        check.term(4, "-1 a number that can't be; -2 no SIDES told, no such SIDE, SHOOTER; -3 it can't be by what stands. The first of these in that order");
         String one = "a 3;b 3";
         String two = "a 12;b 34";
         check.stays("exchange: one twice of no SIDES", -1, "", "", x -> x.exchange(0, 1, 1));
