@@ -225,6 +225,14 @@ public final class EdgesOfBackTest {
         for (int i = 0; i < want.length; i++) {
             check.due("made(" + i + ")", want[i], x.made(i));
         }
+        x = Check.of("a 3;b 3");
+        x.kick(false);
+        check.due("a's first, none", 0, x.made(0));
+        x.kick(false);
+        check.due("b's first, none", 10, x.made(1));
+        x.undo();
+        x.kick(true);
+        check.due("b's first, a goal", 11, x.made(1));
         x = Check.of("a 3;b 3;first b");
         for (int i = 0; i < 60; i++) {
             x.kick(i % 4 < 2);

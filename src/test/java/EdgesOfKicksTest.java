@@ -361,7 +361,14 @@ public final class EdgesOfKicksTest {
             check.due("goals of a", 1, x.judged(0));
             check.due("goals of b", 2, x.judged(1));
         }
-        KickOdds x = at("a 3;b 3", "xo");
+        KickOdds x = Check.of("a 333;b 333;first b");
+        Check.play(x, "xxxxx");
+        x.undo();
+        x.first(0);
+        check.due("by a first then", 3, Check.judge(x, "xox"));
+        check.due("goals of a", 2, x.judged(0));
+        check.due("goals of b", 0, x.judged(1));
+        x = at("a 3;b 3", "xo");
         check.due("nothing told", 0, x.judge());
         check.due("blanks alone", 0, Check.judge(x, "   "));
         check.due("one", 1, Check.judge(x, "x"));

@@ -73,6 +73,24 @@ public final class EdgesOfOddsTest {
         // a round: 3 of 36 by a, 9 by b, so 1 : 3; behind a's goal b makes 5 of 6: 1 / 6 + 5 / 6 * 1 / 4
         oddsAre("a 3;b 3;behind b 2", "xx", 1, 4, 3, 4);
         oddsAre("a 3;b 3;behind b 2", "xxx", 3, 8, 5, 8);
+        // shooter 0: 12 by a, 6 by b, 18 level; shooter 1: 18 by a, 18 level; then shooter 0 again
+        String two = "a 43;b 30";
+        oddsAre(two, "xxoo", 7, 9, 2, 9);
+        oddsAre(two, "xxoox", 17, 18, 1, 18);
+        oddsAre(two, "xxooo", 4, 9, 5, 9);
+        oddsAre(two, "xxooxx", 8, 9, 1, 9);
+        oddsAre(two, "xxooxxx", 1, 1, 0, 1);
+        oddsAre(two, "xxooxxo", 7, 9, 2, 9);
+        oddsAre(two, "xxooxxoo", 7, 9, 2, 9);
+        oddsAre(two, "xxooxxooxx", 8, 9, 1, 9);
+        // REGULAR KICKS that are left: 1 / 2 + 1 / 2 * (1 / 2 + 1 / 2 * 1 / 2), then 1 / 2 + 1 / 2 * 1 / 2
+        String even = "a 33;b 33";
+        oddsAre(even, "", 1, 2, 1, 2);
+        oddsAre(even, "xo", 7, 8, 1, 8);
+        oddsAre(even, "xoo", 3, 4, 1, 4);
+        oddsAre(even, "ox", 1, 8, 7, 8);
+        oddsAre(even, "oxx", 1, 4, 3, 4);
+        oddsAre(even, "xxx", 3, 4, 1, 4);
         // a surely loses or surely wins by CHANCE alone
         oddsAre("a 6;b 0", "", 1, 1, 0, 1);
         oddsAre("a 66666;b 00000", "", 1, 1, 0, 1);
@@ -87,6 +105,15 @@ public final class EdgesOfOddsTest {
         oddsAre("a 6;b 6", "xxxxo", 0, 1, 1, 1);
         oddsAre("a 6;b 6", "xxxxx", 0, 1, 0, 1);
         oddsAre("a 0;b 0", "xxx", 1, 1, 0, 1);
+        // what is not never OVER is won by one of both, from each of the REGULAR KICKS on
+        for (int n = 1; n <= 5; n++) {
+            KickOdds x = Check.of("a 43251".substring(0, n + 2) + ";b 34125".substring(0, n + 3) + ";behind b 1;order 3");
+            for (int k = 0; k < 2 * n + 3; k++) {
+                check.due("both together, " + n + " shooters, kick " + k, x.odds(0, 1), x.odds(0, 0) + x.odds(1, 0));
+                check.due("of as many", x.odds(0, 1), x.odds(1, 1));
+                x.kick(true);
+            }
+        }
     }
 
     private static void oddsNone() {
@@ -351,6 +378,8 @@ public final class EdgesOfOddsTest {
         check.due("0 : 1", 2 * 3, x.score(0, 1));
         check.due("1 : 0", 4 * 3, x.score(1, 0));
         check.due("1 : 1", 4 * 3, x.score(1, 1));
+        check.due("0 : 0, asked again", 2 * 3, x.score(0, 0));
+        check.due("1 : 1, asked again", 4 * 3, x.score(1, 1));
         // OVER at 2 : 0: what the last KICK would be does not count
         x = Check.of("a 66;b 06");
         check.due("2 : 0", 1296, x.score(2, 0));

@@ -149,6 +149,9 @@ public final class EdgesOfRowsTest {
         bestIs("146", "523", ";behind a -1;ahead b 2;order 3");
         bestIs("1462", "5230", ";behind b -2;ahead a 1;first b");
         bestIs("14625", "52304", ";behind b -2;ahead a 1;order 1");
+        check.due("the last of all rows", 43210, Check.of("a 12345;b 33333").best(0));
+        check.due("the first of all rows", 1234, Check.of("a 54321;b 33333").best(0));
+        check.due("the last of four", 3210, Check.of("a 1245;b 3333").best(0));
         check.says(26, "of like ones the least, as digits.");
         bestIs("155", "255", "");
         bestIs("266", "406", "");

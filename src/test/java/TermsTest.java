@@ -1,4 +1,5 @@
 import java.math.BigInteger;
+import java.util.List;
 
 /** The boundary cases that the document's "Terms" and the words below them name, sentence by sentence. */
 public final class TermsTest {
@@ -24,6 +25,7 @@ public final class TermsTest {
         nobody();
         fractions();
         atTheStart();
+        atTheStartByActs();
         ways();
         rows();
         acts();
@@ -207,7 +209,10 @@ public final class TermsTest {
         check.term(1, "TOKENS, the longest that can be: rows of letters a .. z, single other signs");
         fault(0, "ab3;b3");
         fault(0, "aa3;b3");
+        fault(0, "az3;b3");
+        fault(0, "za3;b3");
         fault(3, "a3;bb3");
+        fault(6, "a3;b3;orderz 1");
         fault(6, "a3;b3;behinda 1");
         fault(6, "a3;b3;firstb");
         fault(12, "a3;b3;first ab");
@@ -607,6 +612,41 @@ public final class TermsTest {
         }
     }
 
+    /** By acts to what y was told, with answers in between that try other things: each asked alone is as y's. */
+    private static void atTheStartByActs() {
+        check.term(2, "AT THE START: as if no KICK were made");
+        List<Check.Call> asked = List.of(x -> x.ends(4), x -> x.score(2, 1), KickOdds::likely, x -> x.mean(0),
+            x -> x.mean(1), KickOdds::fairest, x -> x.unfair(1, 0), x -> x.toss(0, 2), x -> x.oddsBy(1, 2, 0, 0),
+            x -> x.oddsOf(0, 120, 0), x -> x.oddsOf(1, 201, 1), x -> x.best(0), x -> x.best(1), x -> x.climbed(0, 0),
+            x -> x.climbed(1, 1), x -> x.rests(0), x -> x.rests(1), x -> x.rests(2), x -> Check.judge(x, "xoxo"));
+        List<Check.Call> between = List.of(x -> x.drawn(1, 1, 0), x -> x.matters(0), x -> x.oddsBy(0, 3, 1, 0),
+            x -> x.oddsOf(0, 210, 0), x -> x.oddsOf(1, 210, 0), x -> Check.judge(x, "xo"), x -> Check.teams(x, "a6;b"));
+        String[][] sides = {{"a 152;b 432", ";behind a -1;ahead b 2", "a 125;b 342"},
+            {"a 266;b 406", ";behind b -2;ahead a 1", "a 266;b 640"}};
+        for (String[] told : sides) {
+            for (int i = 0; i < asked.size() * between.size(); i++) {
+                Check.Call ask = asked.get(i / between.size());
+                KickOdds x = Check.of(told[2] + told[1] + ";order 3;first b");
+                x.kick(false);
+                between.get(i % between.size()).on(x);
+                x.undo();
+                x.order(1);
+                x.first(0);
+                for (int side = 0; side < 2; side++) {
+                    for (int at = 0; at < 2; at++) {
+                        int want = told[0].charAt(side * 6 + 2 + at) - '0';
+                        for (int j = at + 1; j < 3 && x.side(side, 10 + at) != want; j++) {
+                            x.exchange(side, at, j);
+                        }
+                    }
+                }
+                KickOdds y = Check.of(told[0] + told[1] + ";order 1");
+                check.due(told[0] + " ask " + i / between.size() + " behind " + i % between.size(), ask.on(y), ask.on(x));
+                check.due("asked again", ask.on(y), ask.on(x));
+            }
+        }
+    }
+
     private static void ways() {
         check.term(2, "WAYS AT THE START: of 6 to the 2 n ways in which the REGULAR KICKS may come, so many");
         long all = 1;
@@ -735,6 +775,16 @@ public final class TermsTest {
         check.due("at first again", 0, x.count(2) + x.count(3) + x.side(0, 0) + x.side(1, 1));
         check.due("all begins anew", 1, x.kick(true));
         check.due("one act", 1, x.count(6));
+        // nothing of the KICKS ahead of it comes back with new ones
+        x = Check.of("a 333;b 333;first b");
+        Check.play(x, "xxxxx");
+        x.drawn(3, 2, 0);
+        Check.teams(x, "a 333;b 333");
+        Check.play(x, "oooo");
+        for (int i = 0; i < 4; i++) {
+            check.due("made(" + i + ")", i % 2 == 0 ? 0 : 10, x.made(i));
+        }
+        check.due("whose turn it is", 0, x.turn(0));
     }
 
     // ---- the words below the Terms
