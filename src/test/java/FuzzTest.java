@@ -14,6 +14,7 @@ public final class FuzzTest {
             wildRun(i);
         }
         askingChangesNothing();
+        lastCall();
         room();
         check.finish();
     }
@@ -123,6 +124,20 @@ public final class FuzzTest {
                 x.kick(i % 3 == 0);
             }
         }
+    }
+
+    /** "An object is used for at most 512 calls after it has been made": the 512th answers as the first would. */
+    private static void lastCall() {
+        KickOdds x = new KickOdds();
+        x.sign(0x61333b62);
+        x.sign(0x34202020);
+        check.due("call 3, teams()", 1, x.teams());
+        for (int call = 4; call <= 508; call++) {
+            check.due("call " + call, call % 2 == 0 ? 1 : 0, call % 2 == 0 ? x.kick(true) : x.undo());
+        }
+        check.due("call 509, undo()", 0, x.undo() + x.count(1));
+        check.due("call 511, odds()", 3, x.odds(0, 1));
+        check.due("call 512, kick()", 1, x.kick(true));
     }
 
     /** 512 of the dearest calls make nothing: what is needed is made with the object. */
