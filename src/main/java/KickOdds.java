@@ -23,10 +23,10 @@ public final class KickOdds {
     private static final long[] SIXES =
         {1, 6, 36, 216, 1296, 7776, 46656, 279936, 1679616, 10077696, 60466176};
 
-    private final Text text = new Text();
+    private final Teller teller = new Teller();
+    private final Text text = teller.text;
     private final Shootout now = new Shootout();
     private final Shootout trial = new Shootout();
-    private final Teller teller = new Teller(text, trial);
     private final Past past = new Past();
     private final Shootout[] kept = new Shootout[KEPT];
     private final boolean[] isKept = new boolean[KEPT];
@@ -63,7 +63,7 @@ public final class KickOdds {
         if (fault >= 0) {
             return FAULT - fault;
         }
-        now.copyFrom(trial);
+        now.copyFrom(teller.into);
         past.forget();
         atRest.known = false;
         for (int k = 0; k < isKept.length; k++) {
@@ -767,23 +767,18 @@ public final class KickOdds {
         }
     }
 
-    /** Reads two sides out of THE TEXT. Its methods answer false when its token can't stand there. */
+    /** Holds THE TEXT and reads two sides out of it. Its methods answer false when its token can't stand there. */
     private static final class Teller {
         private static final int OF_ORDER = 4;
         private static final int OF_FIRST = 8;
         private static final int OF_NERVES = 16;
 
-        private final Text text;
+        private final Text text = new Text();
         private final int[] counts = new int[2];
-        private final Shootout into;
+        private final Shootout into = new Shootout();
         private int start;
         private int stop;
         private int told;
-
-        Teller(Text text, Shootout into) {
-            this.text = text;
-            this.into = into;
-        }
 
         /** Where the FAULT is, or NONE. */
         int readText() {

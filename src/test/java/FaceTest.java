@@ -91,6 +91,11 @@ public final class FaceTest {
             check.due("has no " + word, NONE_FOUND, text.indexOf(word));
         }
         check.due("one throw", 2, text.split("throw new ").length);
+        for (String line : text.split("\n")) {
+            // rule 12: a constructor hands out nothing of the object that it makes
+            check.due("a part is made without the others: " + line, false, line.matches(" +private .*= new [A-Z]\\w*\\(.+\\);"));
+        }
+        check.due("hands out no this", NONE_FOUND, Math.max(text.indexOf("(this"), text.indexOf(", this")));
         int methodLines = 0;
         for (String line : text.split("\n")) {
             boolean ends = line.matches("    (    )?}");
